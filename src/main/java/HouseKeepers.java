@@ -25,8 +25,8 @@ public final class HouseKeepers {
     private final Stays stays = new Stays();
     private final Reviews reviews = new Reviews(stays);
     private final Terms terms = new Terms();
-    private final Text text = new Text();
     private final Row tape = new Row(Text.LONGEST);
+    private final Text text = new Text(tape);
     private final Row row = new Row(12);
     private final Row told = new Row(Match.MOST);
     private final Rules rules = new Rules(towns, keepers, houses, stays, reviews, terms);
@@ -146,7 +146,7 @@ public final class HouseKeepers {
         int refusal = boundRefusal(day, stays.now, LAST_DAY);
         if (refusal != 0) return refuse(refusal);
         if (terms.count >= Terms.MOST) return refuse(ROOM);
-        int fault = text.read(tape);
+        int fault = text.read();
         tape.clear();
         return fault == Text.SOUND ? terms.add(house, day, text) : FIRST_FAULT - fault;
     }
@@ -620,7 +620,8 @@ public final class HouseKeepers {
     private static final class Reviews {
         static final int OF_KEEPER = 0;
         static final int OF_HOUSE = 1;
-        private static final int UNTOLD = -1;
+        /** Of a review that is not told: behind every day. */
+        private static final int NEVER = LAST_DAY + 1;
         private static final int DAYS_TO_TELL = 30;
         private static final int DAYS_SHUT = 14;
         private static final int HAND_UNKNOWN = 300;
@@ -634,34 +635,30 @@ public final class HouseKeepers {
         private final int[][] stars = new int[2][Stays.MOST];
         private final int[][] toldOn = new int[2][Stays.MOST];
         private final int[] given = new int[Houses.MOST];
-        /** The day for which hand, trust and known stand; UNTOLD if for none. */
-        private int knownOn = UNTOLD;
+        /** The day for which hand, trust and known stand. */
+        private int knownOn = NEVER;
 
         Reviews(Stays stays) {
             this.stays = stays;
-            Arrays.fill(toldOn[OF_KEEPER], UNTOLD);
-            Arrays.fill(toldOn[OF_HOUSE], UNTOLD);
+            Arrays.fill(toldOn[OF_KEEPER], NEVER);
+            Arrays.fill(toldOn[OF_HOUSE], NEVER);
         }
 
         boolean mayBeTold(int side, int stay) {
             boolean inTime = stays.isOver(stay) && stays.now <= stays.to[stay] + DAYS_TO_TELL;
-            return stays.state[stay] == Stays.TAKEN && inTime && toldOn[side][stay] == UNTOLD;
+            return stays.state[stay] == Stays.TAKEN && inTime && toldOn[side][stay] == NEVER;
         }
 
         void add(int side, int stay, int howMany) {
             stars[side][stay] = howMany;
             toldOn[side][stay] = stays.now;
             count++;
-            knownOn = UNTOLD;
+            knownOn = NEVER;
         }
 
         boolean isCounting(int side, int stay, int day) {
-            if (!isToldBy(side, stay, day)) return false;
-            return isToldBy(1 - side, stay, day) || day > stays.to[stay] + DAYS_SHUT;
-        }
-
-        private boolean isToldBy(int side, int stay, int day) {
-            return toldOn[side][stay] != UNTOLD && toldOn[side][stay] <= day;
+            if (toldOn[side][stay] > day) return false;
+            return toldOn[1 - side][stay] <= day || day > stays.to[stay] + DAYS_SHUT;
         }
 
         int countingOn(int day) {
@@ -740,13 +737,16 @@ public final class HouseKeepers {
 
         int size;
         final int[] steps = new int[LONGEST];
-        private Row bytes;
+        private final Row tape;
         private int at;
         private int fault;
 
+        Text(Row tape) {
+            this.tape = tape;
+        }
+
         /** The place of the first byte that can not stand, or SOUND. */
-        int read(Row tape) {
-            bytes = tape;
+        int read() {
             size = 0;
             at = 0;
             fault = SOUND;
@@ -756,7 +756,7 @@ public final class HouseKeepers {
         }
 
         private int next() {
-            return bytes == null ? Row.END : bytes.at(at);
+            return tape.at(at);
         }
 
         private void fail() {
@@ -1008,7 +1008,7 @@ public final class HouseKeepers {
         }
 
         int landOf(int stay) {
-            return towns.land[townOf(stay)];
+            return towns.land[houses.town[stays.house[stay]]];
         }
 
         private int townOf(int stay) {
@@ -1061,16 +1061,19 @@ public final class HouseKeepers {
         /** Of all spans of so many days, none has more than the fullest that begins with a stay. */
         private boolean isTooLongInLand(int stay) {
             int limit = towns.limit[landOf(stay)];
-            if (daysInLandSince(stays.from[stay], stay) > limit) return true;
+            // Most often all days together are not too many, and no span has to be looked at.
+            if (daysInLand(stay, 0, LAST_DAY) <= limit) return false;
+            if (daysInLand(stay, stays.from[stay], stays.from[stay] + VISA_DAYS - 1) > limit) return true;
             for (int i = 0; i < mineCount; i++) {
-                if (daysInLandSince(stays.from[mine[i]], stay) > limit) return true;
+                int first = stays.from[mine[i]];
+                if (daysInLand(stay, first, first + VISA_DAYS - 1) > limit) return true;
             }
             return false;
         }
 
-        private int daysInLandSince(int first, int stay) {
+        /** Days from first to last of mine, and of this stay, in the land of this one. */
+        private int daysInLand(int stay, int first, int last) {
             int land = landOf(stay);
-            int last = first + VISA_DAYS - 1;
             int sum = stays.daysWithin(stay, first, last);
             for (int i = 0; i < mineCount; i++) {
                 if (landOf(mine[i]) == land) sum += stays.daysWithin(mine[i], first, last);
@@ -1113,6 +1116,8 @@ public final class HouseKeepers {
         /** Stays that the keeper may take but for days, by first days, and their bits in the row. */
         private final int[] stayAt = new int[MOST];
         private final int[] bitAt = new int[MOST];
+        /** Days of all stays from here on: what a set could still win. */
+        private final int[] daysLeft = new int[MOST + 1];
         private int size;
 
         Chain(Stays stays, Rules rules) {
@@ -1125,6 +1130,8 @@ public final class HouseKeepers {
             for (int i = 0; i < row.size && i < MOST; i++) {
                 if (rules.mayAlone(keeper, row.at(i))) insert(row.at(i), 1 << i);
             }
+            daysLeft[size] = 0;
+            for (int at = size - 1; at >= 0; at--) daysLeft[at] = daysLeft[at + 1] + stays.lengthOf(stayAt[at]);
             bestDays = 0;
             bestSet = 0;
             rules.gatherStaysOf(keeper);
@@ -1147,11 +1154,13 @@ public final class HouseKeepers {
                 weigh(set, days);
                 return;
             }
+            if (days + daysLeft[at] < bestDays) return;
+            if (rules.whyNotByDays(keeper, stayAt[at]) == Rules.MAY) {
+                rules.addToMine(stayAt[at]);
+                search(keeper, at + 1, set | bitAt[at], days + stays.lengthOf(stayAt[at]));
+                rules.dropLastOfMine();
+            }
             search(keeper, at + 1, set, days);
-            if (rules.whyNotByDays(keeper, stayAt[at]) != Rules.MAY) return;
-            rules.addToMine(stayAt[at]);
-            search(keeper, at + 1, set | bitAt[at], days + stays.lengthOf(stayAt[at]));
-            rules.dropLastOfMine();
         }
 
         private void weigh(int set, int days) {
@@ -1305,11 +1314,13 @@ public final class HouseKeepers {
         }
 
         int nearestFor(int stay) {
+            if (stays.state[stay] != Stays.OPEN) return NONE;
             reviews.know(stays.now);
             int best = NONE;
             int bestHours = 0;
             for (int k = 0; k < keepers.count; k++) {
-                if (rules.whyNot(k, stay) != Rules.MAY) continue;
+                rules.gatherStaysOf(k);
+                if (rules.whyNotBesideMine(k, stay) != Rules.MAY) continue;
                 int hours = rules.hoursTo(k, stay);
                 boolean nearer = hours == bestHours ? best != NONE && stayPrefers(k, best) : hours < bestHours;
                 if (best == NONE || nearer) {

@@ -542,14 +542,18 @@ final class Model {
         return row.size() > 6 ? -6 : 0;
     }
 
-    /** All ways to give places keepers that may, each one at most; -1 for nobody. */
-    private List<int[]> matchings() {
+    private List<Set<Integer>> whoMay() {
         List<Set<Integer>> may = new ArrayList<>();
         for (int v : row) {
             Set<Integer> who = new TreeSet<>();
             for (Keeper k : keepers) if (whyNot(k, stays.get(v)) == 0) who.add(k.number);
             may.add(who);
         }
+        return may;
+    }
+
+    /** All ways to give places keepers that may, each one at most; -1 for nobody. */
+    private List<int[]> matchings(List<Set<Integer>> may) {
         List<int[]> all = new ArrayList<>();
         extend(all, may, new int[row.size()], 0);
         return all;
@@ -587,12 +591,11 @@ final class Model {
         return k < 0 ? FAR : -trustOf(keepers.get(k), now) * 100 + k;
     }
 
-    private int firstBlocking(int[] way) {
+    private int firstBlocking(int[] way, List<Set<Integer>> may) {
         for (int i = 0; i < way.length; i++) {
-            for (Keeper k : keepers) {
-                if (whyNot(k, stays.get(row.get(i))) != 0) continue;
-                boolean stayWould = rankOfKeeper(k.number) < rankOfKeeper(way[i]);
-                boolean keeperWould = rankOfPlace(k.number, i) < rankOfPlace(k.number, placeOf(way, k.number));
+            for (int k : may.get(i)) {
+                boolean stayWould = rankOfKeeper(k) < rankOfKeeper(way[i]);
+                boolean keeperWould = rankOfPlace(k, i) < rankOfPlace(k, placeOf(way, k));
                 if (stayWould && keeperWould) return i;
             }
         }
@@ -604,8 +607,9 @@ final class Model {
         if (rowRefusal() != 0) return refuse(rowRefusal());
         if (!in(i, 0, row.size() - 1)) return refuse(-2);
         int[] best = null;
-        for (int[] way : matchings()) {
-            if (firstBlocking(way) >= 0) continue;
+        List<Set<Integer>> may = whoMay();
+        for (int[] way : matchings(may)) {
+            if (firstBlocking(way, may) >= 0) continue;
             if (best == null || keepersLike(way, best)) best = way;
         }
         return best[i] < 0 ? -9 : best[i];
@@ -638,7 +642,7 @@ final class Model {
             if (!isKeeper(way[i]) || !seen.add(way[i])) return i;
             if (whyNot(keepers.get(way[i]), stays.get(row.get(i))) != 0) return i;
         }
-        int blocking = firstBlocking(way);
+        int blocking = firstBlocking(way, whoMay());
         return blocking < 0 ? -9 : 20 + blocking;
     }
 
@@ -660,7 +664,7 @@ final class Model {
         int[] best = null;
         int bestHours = 0;
         int bestPlaced = -1;
-        for (int[] way : matchings()) {
+        for (int[] way : matchings(whoMay())) {
             int placed = 0;
             int hours = 0;
             for (int p = 0; p < way.length; p++) {

@@ -25,6 +25,7 @@ public final class ModelTest {
     private int calls;
     private int mostKeepers;
     private boolean wild;
+    private boolean full;
 
     public static void main(String[] args) {
         ModelTest test = new ModelTest();
@@ -43,7 +44,8 @@ public final class ModelTest {
         calls = 0;
         wild = run % 5 == 4;
         // Model tries every matching, so with many keepers rows are kept short.
-        mostKeepers = run % 7 == 0 ? 20 : 1 + random.nextInt(6);
+        full = run % 7 == 3;
+        mostKeepers = full || run % 7 == 0 ? 20 : 1 + random.nextInt(6);
         setUp();
         int all = 0;
         for (int weight : WEIGHTS) all += weight;
@@ -59,11 +61,23 @@ public final class ModelTest {
         for (int i = 0; i < 6; i++) call("town", below(10), below(3), 0, 0);
         for (int i = 0; i < 12; i++) call("way", below(6), below(6), 1 + below(random.nextBoolean() ? 40 : 240), 0);
         for (int i = 0; i < 3; i++) call("limit", below(3), 10 + below(80), 0, 0);
-        for (int i = 0; i < Math.min(mostKeepers, 8); i++) addKeeper();
-        int houses = 1 + below(12);
+        for (int i = 0; i < (full ? 20 : Math.min(mostKeepers, 8)); i++) addKeeper();
+        int houses = full ? 20 : 1 + below(12);
         for (int i = 0; i < houses; i++) call("house", below(6), below(4), 0, 0);
-        int stays = below(20);
+        int stays = full ? 100 : below(20);
         for (int i = 0; i < stays; i++) addStay(0);
+        if (full) tellFewMay();
+    }
+
+    /** Of twenty keepers no more than five, so that Model can try every matching of a long row. */
+    private void tellFewMay() {
+        String[] texts = {"(k>15)", "(k<5)", "(k/4=2)", "(k/5*5=k)"};
+        String text = texts[below(texts.length)];
+        for (int at = 0; at < text.length(); at += 8) {
+            int n = Math.min(8, text.length() - at);
+            feed(n, Check.packed(text, at, n));
+        }
+        call("term", -1, 0, 0, 0);
     }
 
     private void addKeeper() {
@@ -181,7 +195,7 @@ public final class ModelTest {
     }
 
     private int shortRow() {
-        return below(15) == 0 ? 8 : m.count(1) > 6 ? 2 : 1 + below(6);
+        return below(15) == 0 ? 8 : m.count(1) > 6 && !full ? 2 : 1 + below(6);
     }
 
     private void fillRow(int most) {
@@ -220,6 +234,7 @@ public final class ModelTest {
     }
 
     private void addTerm(int now) {
+        if (full) return;
         String text = below(6) == 0 ? spoiled(text(3)) : text(3);
         // Most terms let, or nothing would ever be taken.
         if (below(3) != 0) text = "1+" + text + "*0+(" + text(1) + "=" + text(1) + ")";

@@ -266,11 +266,18 @@ public final class PromisesTest {
         x.way(3, 2, 24);
         x.way(3, 1, 25);
         due("P10 from the one ahead", x.why(0, 2), 4);
+        x.house(4, 0);
+        x.stay(3, 30, 31);
+        x.take(0, 3);
+        x.way(3, 4, 240);
+        x.way(3, 1, 24);
+        due("P10 the one that begins first behind it, not another", x.why(0, 2), 0);
+        x.way(3, 1, 25);
         x.cancel(0);
         due("P10 cancelled ones are none", x.why(0, 2), 0);
         x.house(2, 0);
-        x.stay(3, 9, 9);
-        due("P10 the same town the next day", x.why(0, 3), 0);
+        x.stay(4, 9, 9);
+        due("P10 the same town the next day", x.why(0, 4), 0);
     }
 
     private static void whyVisa() {
@@ -571,6 +578,8 @@ public final class PromisesTest {
         letter(x, "z", 0, 0);
         letter(x, "z", 1, 1);
         letter(x, "z", 2, 0);
+        x.keeper(0, 255, 2, 92856);
+        letter(x, "z", 3, 0);
         x.days(27);
         letter(x, "y", 1, -2);
     }
@@ -651,6 +660,7 @@ public final class PromisesTest {
         due("P18 below", x.hand(0, -1), -4);
         due("P18 behind now", x.hand(0, 6), -6);
         due("P18 without", x.hand(1, 5), 300);
+        due("P18 on day 0", x.hand(0, 0), 300);
         due("P18 of two", x.hand(0, 5), 300);
         due("P18 as known the day ahead", x.hand(0, 4), 300);
         x.house(0, 0);
@@ -676,6 +686,7 @@ public final class PromisesTest {
         due("P19 no keeper", x.trust(3, -1), FAR + 1);
         due("P19 below", x.trust(0, -1), FAR + 4);
         due("P19 behind now", x.trust(0, 6), FAR + 6);
+        due("P19 on day 0", x.trust(0, 0), 0);
         due("P19 less", x.trust(0, 5), -50);
         due("P19 more", x.trust(1, 5), 50);
         due("P19 nothing known", x.trust(2, 5), 0);
@@ -717,6 +728,7 @@ public final class PromisesTest {
         due("P21 no house", x.stars(2, -1), -1);
         due("P21 below", x.stars(0, -1), -4);
         due("P21 behind now", x.stars(0, 6), -6);
+        due("P21 on day 0", x.stars(0, 0), -9);
         due("P21 mean", x.stars(0, 5), 350);
         due("P21 the day ahead", x.stars(0, 4), -9);
         due("P21 none", x.stars(1, 5), -9);
@@ -871,7 +883,8 @@ public final class PromisesTest {
         due("P25 below", x.wish(0, 4, -1), -4);
         due("P25 above", x.wish(0, 4, 100), -6);
         due("P25 first", x.wish(0, 4, 99), 0);
-        due("P25 then", x.wish(0, 4, 1), 99);
+        due("P25 then", x.wish(0, 4, 0), 99);
+        due("P25 then 0", x.wish(0, 4, 1), 0);
         due("P25 another land", x.wish(0, 3, 1), 0);
     }
 
@@ -979,6 +992,9 @@ public final class PromisesTest {
         judged(x, 21, 1, 2, 0);
         judged(x, 22, 2, 1, 0);
         judged(x, 22, 2, 1, -1);
+        tellTerm(x, "(k<1)", 1, x.count(0));
+        judged(x, -9, 0, 1, 2);
+        judged(x, 0, 1, 0, 2);
         due("P28 none of both are not as many", x.judge(), -3);
         x.tell(1);
         due("P28 not as many", x.judge(), -3);
@@ -1049,6 +1065,10 @@ public final class PromisesTest {
         placed(y, 77, 4, 1, 3, 0, 2);
         tellTerm(y, "(k=1)", 2, 0);
         placed(y, 53, 3, 1, 3, -9, 0);
+        tellTerm(y, "0", -1, 0);
+        tellTerm(y, "0", 0, 0);
+        tellTerm(y, "0", 2, 0);
+        placed(y, 0, 0, -9, -9, -9, -9);
     }
 
     private static void placed(HouseKeepers x, int hours, int howMany, int... who) {
@@ -1060,15 +1080,15 @@ public final class PromisesTest {
     // Promise 31
     private static void group() {
         HouseKeepers x = new HouseKeepers();
-        int[] marks = {10000, 0, 99999, 22, 2, 99998, 20000, 33333, 99888};
-        int[] least = {0, 0, 2, 0, 0, 2, 0, 7, 8};
+        int[] marks = {10000, 0, 99999, 22, 2, 99998, 20000, 33333, 99888, 33344};
+        int[] least = {0, 0, 2, 0, 0, 2, 0, 7, 8, 9};
         for (int mark : marks) x.keeper(0, 0, 1, mark);
         for (int k = 0; k < least.length; k++) due("P31 group of " + k, x.group(k), least[k]);
-        due("P31 no keeper", x.group(9), -1);
+        due("P31 no keeper", x.group(10), -1);
         due("P31 no keeper below", x.group(-1), -1);
         x.keeper(0, 0, 1, 99988);
         due("P31 joined by a later one", x.group(8), 2);
-        due("P31 the later one", x.group(9), 2);
+        due("P31 the later one", x.group(10), 2);
     }
 
     // Promise 32
