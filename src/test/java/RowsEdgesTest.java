@@ -21,6 +21,7 @@ public final class RowsEdgesTest {
         judgeRow();
         whoElseRanks();
         whoElseWhere();
+        whoMayByOtherStays();
         placeOfFew();
         placeOfMany();
         placeTies();
@@ -505,6 +506,42 @@ public final class RowsEdgesTest {
         x.stay(3, 22, 23);
         x.take(0, 2);
         due("P29 a stay behind it does not tell where one is", x.whoElse(0), 2);
+    }
+
+    /** In a row, too, a keeper may not what does not fit the stays that one has taken. */
+    private static void whoMayByOtherStays() {
+        HouseKeepers x = people(2, 2);
+        x.stay(0, 10, 12);
+        x.stay(1, 12, 13);
+        due("P11 the least keeper", x.take(0, 0), 1);
+        due("P29 a clash", x.whoElse(1), 1);
+        due("P29 a taken one that has not begun", x.whoElse(0), -9);
+        row(x, 1);
+        paired("a clash", x, 1);
+        placed("a clash", x, 24, 1, 1);
+        judged(x, 0, 0);
+        judged(x, 20, -1);
+        judged(x, -9, 1);
+        x.cancel(1);
+        x.stay(1, 13, 14);
+        row(x, 2);
+        paired("the day behind", x, 0);
+        placed("the day behind", x, 24, 1, 0);
+        judged(x, 20, 1);
+        x.way(0, 1, 25);
+        due("P29 too far from the one taken", x.whoElse(2), 1);
+        paired("too far from the one taken", x, 1);
+        placed("too far from the one taken", x, 25, 1, 1);
+        x.way(0, 1, 24);
+        x.limit(0, 4);
+        due("P29 too many days", x.whoElse(2), 1);
+        paired("too many days", x, 1);
+        placed("too many days", x, 24, 1, 1);
+        x.limit(0, 5);
+        due("P29 as many days", x.whoElse(2), 0);
+        paired("as many days", x, 0);
+        x.cancel(0);
+        due("P29 a cancelled one that has not begun", x.whoElse(0), -9);
     }
 
     private static void placed(String name, HouseKeepers x, int hours, int howMany, int... who) {

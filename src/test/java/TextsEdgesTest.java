@@ -23,6 +23,7 @@ public final class TextsEdgesTest {
         letterBounds();
         lettersKnownNow();
         letterZ();
+        letterZJustBelow();
         worthOfAnyStay();
         C.finish("TextsEdgesTest");
     }
@@ -445,6 +446,38 @@ public final class TextsEdgesTest {
         for (int k = 0; k < marks.length; k++) due("P16 z of " + k, x.worth(k, 2), z[k]);
         due("P19 trust below 0", x.trust(0, 17), -100);
         due("P19 trust above 0", x.trust(4, 17), 100);
+    }
+
+    /** Keeper 0 and keeper 1 are alike; keeper 0's trust is -1, then 0. */
+    private static void letterZJustBelow() {
+        HouseKeepers x = new HouseKeepers();
+        int[] marks = {0, 5, 99999};
+        for (int mark : marks) x.keeper(0, 0, 1, mark);
+        x.house(0, 0);
+        x.house(0, 0);
+        int[][] given = {{0, 0, 3}, {0, 0, 3}, {2, 0, 4}, {0, 1, 3}, {2, 1, 3}, {2, 1, 2}, {2, 1, 2}, {2, 1, 2}};
+        for (int[] one : given) {
+            int stay = x.stay(one[1], x.count(0) + 1, x.count(0) + 1);
+            x.take(one[0], stay);
+            x.days(2);
+            x.review(stay, true, one[2]);
+            x.review(stay, false, 3);
+        }
+        int asked = x.stay(0, 100, 100);
+        term(x, "z", 0, 16);
+        due("P18 333", x.hand(0, 16), 333);
+        due("P18 240", x.hand(1, 16), 240);
+        due("P19 -33 and -33 and 60 by 4, cut toward 0", x.trust(0, 16), -1);
+        due("P16 z by a trust of -1", x.worth(1, asked), 1);
+        due("P16 not of itself", x.worth(0, asked), 0);
+        int stay = x.stay(1, 17, 17);
+        x.take(2, stay);
+        x.days(2);
+        x.review(stay, true, 2);
+        x.review(stay, false, 3);
+        due("P18 233", x.hand(1, 18), 233);
+        due("P19 -33 and -33 and 67 by 4", x.trust(0, 18), 0);
+        due("P16 z by a trust of 0", x.worth(1, asked), 0);
     }
 
     private static void worthOfAnyStay() {
