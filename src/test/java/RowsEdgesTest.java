@@ -152,6 +152,16 @@ public final class RowsEdgesTest {
         y.stay(2, 7, 7);
         row(y, 2, 0, 1);
         chained("P24 more days rather than fewer stays", y, 7, 5);
+        HouseKeepers z = people(1, 4);
+        z.stay(0, 1, 12);
+        z.stay(1, 2, 5);
+        z.stay(2, 6, 9);
+        z.stay(3, 10, 14);
+        row(z, 0, 1, 2, 3);
+        chained("P24 three later ones rather than one that is longer than each", z, 13, 14);
+        z.stay(0, 13, 13);
+        row(z, 0, 1, 2, 3, 4);
+        chained("P24 13 days both ways: the fewest stays", z, 13, 17);
     }
 
     private static void chainWays() {
